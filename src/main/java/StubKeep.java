@@ -385,19 +385,17 @@ public final class StubKeep {
 
     public int join(int what) {
         if (what == 0) {
-            return Integer.bitCount(world.life.joined(past.now, MOST));
+            return Integer.bitCount(world.life.doorsJoined(shownIn(past.now)));
         }
         if (what < 10 || !world.life.has(what - 10)) {
             return NO_SUCH;
         }
-        int before = world.life.joined(past.now, what - 10);
-        int mine = world.life.joined(past.now, what - 9) & ~before;
-        return mine == 0 ? NONE : Integer.numberOfTrailingZeros(mine);
+        return world.life.doorOf(what - 10, shownIn(past.now));
     }
 
     public int over() {
         int all = (1 << world.life.doors) - 1;
-        return all & ~world.life.joined(past.now, MOST);
+        return all & ~world.life.doorsJoined(shownIn(past.now));
     }
 
     // ---- slips
@@ -650,12 +648,18 @@ public final class StubKeep {
 
         void goOn(int next) {
             if (count >= DEPTH) {
-                System.arraycopy(moments, 1, moments, 0, DEPTH - 1);
-                count = DEPTH - 1;
+                forgetEldest();
             }
             moments[count] = now;
             count++;
             now = next;
+        }
+
+        private void forgetEldest() {
+            for (int i = 1; i < DEPTH; i++) {
+                moments[i - 1] = moments[i];
+            }
+            count = DEPTH - 1;
         }
 
         void goBack(int n) {
@@ -717,6 +721,7 @@ public final class StubKeep {
         static final int AND = -13;
         static final int OR = -14;
         static final int NOT = -15;
+        static final int GIVEN = 6;
         private static final long BOUND = 1000000;
         // Six levels and the outermost leave at most five numbers each on the pile.
         private static final int PILE = 64;
@@ -747,15 +752,15 @@ public final class StubKeep {
 
         /** given: what stands for DOING to SLIP, in their order. */
         boolean holds(int[] given) {
+            if (given.length < GIVEN) {
+                return false;
+            }
             int top = 0;
             for (int i = 0; i < length && i < TAPE_ROOM; i++) {
                 int step = steps[i];
-                if (step >= SLIP) {
-                    int at = -1 - step;
-                    if (top < PILE && at < given.length) {
-                        pile[top] = step >= 0 ? step : given[at];
-                        top++;
-                    }
+                if (step >= SLIP && top < PILE) {
+                    pile[top] = step >= 0 ? step : given[DOING - step];
+                    top++;
                 } else if (step == NOT && top > 0) {
                     pile[top - 1] = 1 - pile[top - 1];
                 } else if (top > 1) {
@@ -936,21 +941,35 @@ public final class StubKeep {
         }
 
         /**
-         * DOORS that DOINGS below a bound join, as bits. All stubs of an edge fit all halves of the other
-         * edge, so taking the first free half each joins as many as can be, too.
+         * The DOOR that a DOING joins. All stubs of one edge fit all halves of the other edge, so the first
+         * stub takes the first half, and so on, and as many join as can.
          */
-        int joined(int moment, int bound) {
+        int doorOf(int d, int shown) {
+            if ((shown >> d & 1) == 0) {
+                return NONE;
+            }
             int taken = 0;
-            for (int d = 0; d < bound && d < doings; d++) {
-                boolean free = (shownIn(moment) >> d & 1) == 1;
-                for (int k = 0; k < doors && free; k++) {
-                    if ((taken >> k & 1) == 0 && edge[d] + door[k] == 9) {
-                        taken |= 1 << k;
-                        free = false;
+            for (int e = 0; e < d; e++) {
+                taken += (shown >> e & 1) == 1 && edge[e] == edge[d] ? 1 : 0;
+            }
+            for (int k = 0; k < doors; k++) {
+                if (edge[d] + door[k] == 9) {
+                    if (taken == 0) {
+                        return k;
                     }
+                    taken--;
                 }
             }
-            return taken;
+            return NONE;
+        }
+
+        int doorsJoined(int shown) {
+            int joined = 0;
+            for (int d = 0; d < doings; d++) {
+                int k = doorOf(d, shown);
+                joined |= k < 0 ? 0 : 1 << k;
+            }
+            return joined;
         }
     }
 
@@ -994,6 +1013,7 @@ public final class StubKeep {
         private final int[] values = new int[TAPE_ROOM + 1];
         private int count = 0;
         private int at = 0;
+        private boolean slipMayStand = false;
 
         void read(int[] text, int length) {
             scan(text, Math.min(length, text.length));
@@ -1139,10 +1159,10 @@ public final class StubKeep {
                     draft.slip = number(0, 9);
                     break;
                 case KEEPS:
-                    lawLine(draft.keeps);
+                    lawLine(draft.keeps, false);
                     break;
                 case PASSES:
-                    lawLine(draft.passes);
+                    lawLine(draft.passes, true);
                     break;
                 default:
                     fail(2);
@@ -1209,7 +1229,8 @@ public final class StubKeep {
             draft.addClash(d, number(0, draft.doings - 1));
         }
 
-        private void lawLine(Law law) {
+        private void lawLine(Law law, boolean withSlip) {
+            slipMayStand = withSlip;
             next();
             expect(':');
             law.clear();
@@ -1294,7 +1315,7 @@ public final class StubKeep {
                 return;
             }
             int step = stepOf(kind());
-            if (step == 0 || step == Law.SLIP && law != draft.passes) {
+            if (step == 0 || step == Law.SLIP && !slipMayStand) {
                 fail(2);
                 return;
             }
@@ -1334,7 +1355,7 @@ public final class StubKeep {
         // Both laws hang on the DOING, the lining and the SLIP alone: each is worked out once in a life.
         private final byte[] kept = new byte[MOST * SETS];
         private final int[] passed = new int[MOST * SETS];
-        private final int[] given = new int[6];
+        private final int[] given = new int[Law.GIVEN];
 
         void take(Life other) {
             life.copyFrom(other);
@@ -1756,7 +1777,7 @@ public final class StubKeep {
         /** How many LININGS are needed; in which each is stays to be asked for. */
         int part(Life life, int done) {
             for (int count = 0; count <= MOST; count++) {
-                if (place(life, done, 0, count)) {
+                if (place(life, done, 0, 0, count)) {
                     return count;
                 }
             }
@@ -1767,17 +1788,18 @@ public final class StubKeep {
             return d >= 0 && d < MOST ? lining[d] : NONE;
         }
 
-        private boolean place(Life life, int done, int d, int count) {
+        /** One used so far, or the next: a later one is never the first of like ones. */
+        private boolean place(Life life, int done, int d, int used, int count) {
             if (d >= MOST) {
                 return true;
             }
             if ((done >> d & 1) == 0) {
                 lining[d] = NONE;
-                return place(life, done, d + 1, count);
+                return place(life, done, d + 1, used, count);
             }
-            for (int to = 0; to < count; to++) {
+            for (int to = 0; to <= used && to < count; to++) {
                 lining[d] = to;
-                if (fits(life, d) && place(life, done, d + 1, count)) {
+                if (fits(life, d) && place(life, done, d + 1, Math.max(used, to + 1), count)) {
                     return true;
                 }
             }

@@ -92,7 +92,7 @@ public final class RulesTest {
         Matcher imports = Pattern.compile("(?m)^import (.*);$").matcher(code);
         while (imports.find()) must(imports.group(1).equals("java.util.Arrays"), "import " + imports.group(1));
         Matcher library = Pattern.compile("\\b(Arrays|System|Integer|Long|Math|String|Character)\\.(\\w+)").matcher(code);
-        Set<String> may = Set.of("Arrays.fill", "System.arraycopy", "Integer.bitCount", "Integer.numberOfTrailingZeros", "Math.max", "Math.min");
+        Set<String> may = Set.of("Arrays.fill", "System.arraycopy", "Integer.bitCount", "Math.max", "Math.min");
         while (library.find()) must(may.contains(library.group()), "library: " + library.group());
         longMethods(text);
     }
