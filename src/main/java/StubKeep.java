@@ -869,17 +869,13 @@ public final class StubKeep {
         }
 
         int roomLeft(int lining) {
-            return room - sizeOf(lining);
-        }
-
-        private int sizeOf(int set) {
-            int sum = 0;
+            int left = room;
             for (int d = 0; d < doings; d++) {
-                if ((set >> d & 1) == 1) {
-                    sum += size[d];
+                if ((lining >> d & 1) == 1) {
+                    left -= size[d];
                 }
             }
-            return sum;
+            return left;
         }
 
         /** One, and all done ones that need it, or these: needs are told ahead, so once through is enough. */
@@ -929,7 +925,7 @@ public final class StubKeep {
             int best = 0;
             int most = 0;
             for (int set = 1; set < SETS; set++) {
-                if ((set & ~done) == 0 && sizeOf(set) <= room) {
+                if ((set & ~done) == 0 && roomLeft(set) >= 0) {
                     int sum = gainsOf(set, done);
                     if (sum > most) {
                         most = sum;

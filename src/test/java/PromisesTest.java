@@ -264,6 +264,15 @@ public final class PromisesTest {
         due(9, "does(3)", v.does(3), 2);
         StubKeep u = of("life room 9;doing size 1;keeps : 9 - 3 - 2 = 4 and 2 + 3 * 4 = 14 and (2 + 3) * 4 = 20 and 5 > 4 and 4 < 5;");
         due(9, "does(0): from the left, * first", u.does(0), 1);
+        // a text of just 900 bytes, and what stands at the end of its law still counts
+        StubKeep t = of("life room 9;doing size 1;keeps:" + times(431, "1+") + "0=432;");
+        due(9, "does(0): a law of 433 numbers, 899 bytes", t.does(0), 2);
+        String most = "life room 9;doing size 1;keeps:" + times(431, "1+") + "1=432;";
+        StubKeep s = of(most + times(900 - most.length(), " "));
+        due(9, "does(0): 900 bytes", s.does(0), 1);
+        // the law is as deep as can be on both sides of each sign
+        StubKeep r = of("life room 9;doing size 1;keeps:1=2 or 1=1 and 3=1+1*(1+1*(1-0*(5+1*(0+1*(2-1*(3-2)*1)*1))))-0;");
+        due(9, "does(0): six within one another", r.does(0), 1);
     }
 
     private static void dropping() {
@@ -699,6 +708,13 @@ public final class PromisesTest {
         for (int d = 0; d < 4; d++) w.does(d);
         due(35, "clique()", w.clique(), 14);
         due(34, "linings(0)", w.linings(0), 3);
+        StringBuilder all = new StringBuilder("life room 9;" + times(8, "doing size 1;"));
+        for (int d = 0; d < 8; d++) for (int e = 0; e < d; e++) all.append("clash ").append(d).append(' ').append(e).append(';');
+        StubKeep v = of(all.toString());
+        for (int d = 0; d < 8; d++) v.does(d);
+        due(35, "clique() of all", v.clique(), 255);
+        due(34, "linings(0): each by itself", v.linings(0), 8);
+        due(34, "linings(17)", v.linings(17), 7);
     }
 
     // ---- by turns, fires
