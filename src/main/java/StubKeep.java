@@ -481,7 +481,7 @@ public final class StubKeep {
         if (!world.life.hasAll(set)) {
             return BAD_NUMBER;
         }
-        return Turns.firstDeed(world, past.now, set);
+        return Turns.firstDeed(world, past.now, set, Turns.fewest(world, past.now, set));
     }
 
     // ---- fires
@@ -722,7 +722,7 @@ public final class StubKeep {
         static final int OR = -14;
         static final int NOT = -15;
         static final int GIVEN = 6;
-        private static final long BOUND = 1000000;
+        private static final int BOUND = 1000000;
         // Six levels and the outermost leave at most five numbers each on the pile.
         private static final int PILE = 64;
 
@@ -772,10 +772,11 @@ public final class StubKeep {
         }
 
         private static int both(int step, int a, int b) {
+            long value;
             switch (step) {
-                case ADD: return (int) Math.max(-BOUND, Math.min(BOUND, (long) a + b));
-                case TAKE: return (int) Math.max(-BOUND, Math.min(BOUND, (long) a - b));
-                case TIMES: return (int) Math.max(-BOUND, Math.min(BOUND, (long) a * b));
+                case ADD: value = (long) a + b; break;
+                case TAKE: value = (long) a - b; break;
+                case TIMES: value = (long) a * b; break;
                 case SAME: return a == b ? 1 : 0;
                 case LESS: return a < b ? 1 : 0;
                 case MORE: return a > b ? 1 : 0;
@@ -783,6 +784,10 @@ public final class StubKeep {
                 case OR: return a | b;
                 default: return 0;
             }
+            if (value > BOUND) {
+                return BOUND;
+            }
+            return value < -BOUND ? -BOUND : (int) value;
         }
     }
 
@@ -1155,10 +1160,12 @@ public final class StubKeep {
                     draft.slip = number(0, 9);
                     break;
                 case KEEPS:
-                    lawLine(draft.keeps, false);
+                    lawBegins(draft.keeps, false);
+                    truth(draft.keeps, 0);
                     break;
                 case PASSES:
-                    lawLine(draft.passes, true);
+                    lawBegins(draft.passes, true);
+                    truth(draft.passes, 0);
                     break;
                 default:
                     fail(2);
@@ -1225,12 +1232,11 @@ public final class StubKeep {
             draft.addClash(d, number(0, draft.doings - 1));
         }
 
-        private void lawLine(Law law, boolean withSlip) {
+        private void lawBegins(Law law, boolean withSlip) {
             slipMayStand = withSlip;
             next();
             expect(':');
             law.clear();
-            truth(law, 0);
         }
 
         // ---- laws: each reads one kind of part and writes its steps
@@ -1260,14 +1266,18 @@ public final class StubKeep {
             } else if (depth >= DEEPEST) {
                 fail(4);
             } else if (first == NOT) {
-                next();
-                unit(law, depth + 1);
-                law.step(Law.NOT);
+                negated(law, depth);
             } else {
                 next();
                 truth(law, depth + 1);
                 expect(']');
             }
+        }
+
+        private void negated(Law law, int depth) {
+            next();
+            unit(law, depth + 1);
+            law.step(Law.NOT);
         }
 
         private void compared(Law law, int depth) {
@@ -1564,8 +1574,14 @@ public final class StubKeep {
             if (came.length < states) {
                 queue = new int[states];
                 came = new int[states];
-                ways = new long[states];
-                more = new long[states];
+            }
+        }
+
+        /** Counting alone asks for these. */
+        private void fitWays() {
+            if (ways.length < came.length) {
+                ways = new long[came.length];
+                more = new long[came.length];
             }
         }
 
@@ -1659,6 +1675,7 @@ public final class StubKeep {
 
         long rowsTo(World world, int state, int set, int n) {
             spread(world, state);
+            fitWays();
             for (int i = 0; i < count && i < queue.length; i++) {
                 ways[spot(queue[i])] = 0;
             }
@@ -1773,7 +1790,7 @@ public final class StubKeep {
         /** How many LININGS are needed; in which each is stays to be asked for. */
         int part(Life life, int done) {
             for (int count = 0; count <= MOST; count++) {
-                if (place(life, done, 0, 0, count)) {
+                if (place(lining, life, done, 0, 0, count)) {
                     return count;
                 }
             }
@@ -1785,24 +1802,24 @@ public final class StubKeep {
         }
 
         /** One used so far, or the next: a later one is never the first of like ones. */
-        private boolean place(Life life, int done, int d, int used, int count) {
-            if (d >= MOST) {
+        private static boolean place(int[] lining, Life life, int done, int d, int used, int count) {
+            if (d >= MOST || d >= lining.length) {
                 return true;
             }
             if ((done >> d & 1) == 0) {
                 lining[d] = NONE;
-                return place(life, done, d + 1, used, count);
+                return place(lining, life, done, d + 1, used, count);
             }
             for (int to = 0; to <= used && to < count; to++) {
                 lining[d] = to;
-                if (fits(life, d) && place(life, done, d + 1, Math.max(used, to + 1), count)) {
+                if (fits(lining, life, d) && place(lining, life, done, d + 1, Math.max(used, to + 1), count)) {
                     return true;
                 }
             }
             return false;
         }
 
-        private boolean fits(Life life, int d) {
+        private static boolean fits(int[] lining, Life life, int d) {
             for (int e = 0; e < d; e++) {
                 if (lining[e] == lining[d] && (life.clash[d] >> e & 1) == 1) {
                     return false;
@@ -1847,8 +1864,8 @@ public final class StubKeep {
             return NONE;
         }
 
-        static int firstDeed(World world, int moment, int set) {
-            int turns = fewest(world, moment, set);
+        /** The first DEED by which one wins within so many turns, NONE if there are no turns. */
+        static int firstDeed(World world, int moment, int set, int turns) {
             for (int move = 0; move <= NEITHER && turns > 0; move++) {
                 int next = moved(world, moment, move);
                 if (next >= 0 && withstands(world, next, set, turns - 1)) {
