@@ -231,6 +231,85 @@ public final class DeedBoundsTest {
         Bounds.due("ask(0) without a life", new StubKeep().ask(0), -11);
     }
 
+    /** SIZES 1 to 5 in a ROOM of 15, with edges: every lining is asked, in one object, one behind the other. */
+    private static StubKeep five(String laws) {
+        StringBuilder text = new StringBuilder("life room 15;");
+        for (int d = 0; d < 5; d++) text.append("doing size ").append(d + 1).append(" edge ").append(9 - 2 * d).append(';');
+        return Bounds.of(text + laws);
+    }
+
+    private static void setLining(StubKeep x, int lining) {
+        for (int d = 0; d < 5; d++) {
+            boolean there = (x.count(5) >> d & 1) == 1;
+            if ((lining >> d & 1) == 1 && !there) x.forge(d);
+            if ((lining >> d & 1) == 0 && there) x.drop(d);
+        }
+    }
+
+    private static int leftBy(int lining) {
+        int left = 15;
+        for (int d = 0; d < 5; d++) if ((lining >> d & 1) == 1) left -= d + 1;
+        return left;
+    }
+
+    private static void laws() {
+        Bounds.sentence(12, "In both laws: doing, size, edge .. held .. left .. all ahead; in passes slip: the SLIP");
+        StubKeep x = five("passes:slip*4+held*2<doing*5+left*2-edge+7;");
+        for (int lining = 0; lining < 32; lining++) {
+            setLining(x, lining);
+            for (int d = 0; d < 5; d++) {
+                if ((lining >> d & 1) == 0) continue;
+                for (int slip = 0; slip <= 9; slip += 3) {
+                    boolean passes = slip * 4 + Integer.bitCount(lining) * 2 < d * 5 + leftBy(lining) * 2 - (9 - 2 * d) + 7;
+                    x.slip(slip);
+                    Bounds.due("ask(" + d + ") with SLIP " + slip + ", lining " + lining, x.ask(d), passes ? 0 : 1 << d);
+                    x.undo(1);
+                }
+            }
+        }
+        Bounds.sentence(9, "In both laws: doing, size, edge .. held .. left .. all ahead");
+        StubKeep y = five("keeps:held*4+size<doing*7+left-edge;");
+        for (int lining = 0; lining < 32; lining++) {
+            setLining(y, lining);
+            for (int d = 0; d < 5; d++) {
+                int ahead = lining & ~(1 << d);
+                boolean keeps = Integer.bitCount(ahead) * 4 + d + 1 < d * 7 + leftBy(ahead) - (9 - 2 * d);
+                Bounds.due("does(" + d + "), lining " + lining, y.does(d), keeps ? 1 : 2);
+                y.undo(1);
+            }
+        }
+    }
+
+    /** Whether the one DOING, FORGED, passes; whether its stub is kept. */
+    private static void ruled(StubKeep x, String when, boolean passes, boolean keeps) {
+        x.forge(0);
+        Bounds.due("ask(0) " + when, x.ask(0), passes ? 0 : 1);
+        x.undo(2);
+        Bounds.due("does(0) " + when, x.does(0), keeps ? 1 : 2);
+        x.undo(1);
+    }
+
+    private static void lawsOfEachLife() {
+        Bounds.sentence(12, "THE LIFE: the laws are those of the latest one, or of an IMAGE");
+        String[] laws = {"passes:1=1;keeps:1=2;", "passes:1=2;keeps:1=1;", "", "passes:slip=0;keeps:held=0;", "passes:slip=1;keeps:held=1;"};
+        boolean[] passes = {true, false, false, true, false};
+        boolean[] keeps = {false, true, true, true, false};
+        StubKeep x = new StubKeep();
+        for (int a = 0; a < laws.length; a++) {
+            for (int b = 0; b < laws.length; b++) {
+                Bounds.tell(x, "life room 9;doing size 1;" + laws[a]);
+                ruled(x, "of the first life", passes[a], keeps[a]);
+                x.image(0);
+                Bounds.tell(x, "life room 9;doing size 1;" + laws[b]);
+                ruled(x, "of the second life", passes[b], keeps[b]);
+                Bounds.tell(x, "life room 9;doing size 1;" + laws[a] + "door 10;");
+                ruled(x, "behind a FAULT", passes[b], keeps[b]);
+                x.restore(0);
+                ruled(x, "of the IMAGE", passes[a], keeps[a]);
+            }
+        }
+    }
+
     private static void slip() {
         Bounds.sentence(13, "To have a SLIP (0 to 9): what it was. -11");
         StubKeep x = Bounds.of("life room 9;slip 6;");
@@ -473,6 +552,8 @@ public final class DeedBoundsTest {
         drop();
         forge();
         ask();
+        laws();
+        lawsOfEachLife();
         slip();
         undo();
         undoWhat();

@@ -331,6 +331,31 @@ public final class OrderBoundsTest {
         Bounds.due("slips without a life: -3", untold(1), -3);
     }
 
+    /** One object for every lining: what passed in another lining doesn't count. */
+    private static void slipsOfEachLining() {
+        Bounds.sentence(32, "if it passed when it was ASKED for, all being as now each time");
+        StubKeep x = Bounds.of("life room 15;doing size 1;doing size 2;doing size 3;doing size 4;doing size 5;passes:slip*3<doing*5+left-held;");
+        for (int lining = 1; lining < 32; lining++) {
+            int left = 15;
+            for (int d = 0; d < 5; d++) {
+                x.drop(d);
+                if ((lining >> d & 1) == 1) {
+                    x.forge(d);
+                    left -= d + 1;
+                }
+            }
+            for (int d = 0; d < 5; d++) {
+                if ((lining >> d & 1) == 0) continue;
+                int by = 0;
+                for (int slip = 0; slip <= 9; slip++) if (slip * 3 < d * 5 + left - Integer.bitCount(lining)) by |= 1 << slip;
+                Bounds.tray(x, 0, 2 * d + 1);
+                Bounds.due("slips: " + d + " passed, lining " + lining, x.slips(0), by);
+                Bounds.tray(x, 0, 2 * d);
+                Bounds.due("slips: " + d + " didn't, lining " + lining, x.slips(0), 1023 & ~by);
+            }
+        }
+    }
+
     private static int untold(int n) {
         StubKeep x = new StubKeep();
         x.numbers(0, 0, n);
@@ -491,6 +516,7 @@ public final class OrderBoundsTest {
         ahead();
         join();
         slips();
+        slipsOfEachLining();
         attempt();
         linings();
         clique();
